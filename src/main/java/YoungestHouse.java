@@ -295,11 +295,13 @@ public final class YoungestHouse {
         if (m < 1 || m > MOST_TOWNS) return BAD;
         trial.take(now);
         int changes = 0;
+        int before = trial.allHeirs();
         for (int i = 0; i < m; i++) {
             seedNow = seedNow * SEED_FACTOR + SEED_STEP;
-            int before = trial.allHeirs();
             trial.stir((int) ((seedNow >>> 33) % 12));
-            changes += trial.countDiffering(before, trial.allHeirs());
+            int after = trial.allHeirs();
+            changes += trial.countDiffering(before, after);
+            before = after;
         }
         return changes;
     }
@@ -818,8 +820,13 @@ public final class YoungestHouse {
 
         int leastWrong(Town town) {
             int least = 0;
+            int fewest = countWrong(town, least);
             for (int sides = 1; sides < bit(town.houses); sides++) {
-                if (countWrong(town, sides) < countWrong(town, least)) least = sides;
+                int wrong = countWrong(town, sides);
+                if (wrong < fewest) {
+                    fewest = wrong;
+                    least = sides;
+                }
             }
             return least;
         }

@@ -64,7 +64,8 @@ public final class LanguageTest {
         due.holds("number of classes", inside.length <= 11);
         for (Class<?> c : inside) {
             due.holds(c + " is static", Modifier.isStatic(c.getModifiers()));
-            due.holds(c + " is not open", !Modifier.isPublic(c.getModifiers()) && !Modifier.isProtected(c.getModifiers()));
+            int open = Modifier.PUBLIC | Modifier.PROTECTED;
+            due.is(c + " is not open", c.getModifiers() & open, 0);
             fields(c);
         }
     }

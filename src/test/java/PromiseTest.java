@@ -26,6 +26,7 @@ public final class PromiseTest {
         promise4();
         promise4Marks();
         promise5();
+        promise5AfterTrials();
         promise6();
         promise7();
         promise8();
@@ -41,6 +42,7 @@ public final class PromiseTest {
         promise14();
         promise15();
         promise15Each();
+        promise15Full();
     }
 
     private static void whatOneGets() {
@@ -97,10 +99,14 @@ public final class PromiseTest {
         due.is("town of " + text, x.town() == LATE ? LATE : 0, want == NONE ? 0 : LATE);
     }
 
-    /** All that can be asked of houses and children, as one text. */
     private static String allOf(YoungestHouse x) {
+        return x.about(6) + " acts; " + stateOf(x);
+    }
+
+    /** All that can be asked of houses and children, as one text. */
+    private static String stateOf(YoungestHouse x) {
         StringBuilder all = new StringBuilder();
-        for (int what = 0; what < 9; what++) all.append(x.about(what)).append(' ');
+        for (int what = 0; what < 9; what++) if (what != 6) all.append(x.about(what)).append(' ');
         for (int c = 0; c < 7; c++) {
             for (int what = 0; what < 5; what++) all.append(x.child(c, what)).append(' ');
             all.append(x.gets(c)).append(';');
@@ -225,6 +231,7 @@ public final class PromiseTest {
         due.is("town of nothing", x.town(), LATE);
         tell(x, "Y");
         due.is("town of Y", x.town(), 0);
+        for (int what = 0; what < 8; what++) due.is("of Y about(" + what + ")", x.about(what), 0);
         tell(x, TWO);
         due.is("town", x.town(), 26);
         due.is("text stays", x.about(8), TWO.length());
@@ -251,6 +258,25 @@ public final class PromiseTest {
         due.is("kept 0 is gone", x.again(0), LATE);
         due.is("kept 1 is gone", x.again(1), LATE);
         due.is("seed stays", x.seed(0), 77);
+    }
+
+    /** What was tried out in a town is nothing in the next one. */
+    private static void promise5AfterTrials() {
+        YoungestHouse x = townOf("YH19H15C500C300C712C812");
+        x.inherit(0);
+        x.inherit(1);
+        x.year();
+        x.mend(0);
+        x.towns(1);
+        due.is("a fault", x.fault(), NONE);
+        x.mend(0);
+        tell(x, "YH09C500C400");
+        due.is("a lesser town", x.town(), 12);
+        int[] want = {1, 2, 3, 0, 0, 0, 0, 0, 12};
+        for (int what = 0; what < 9; what++) due.is("lesser about(" + what + ")", x.about(what), want[what]);
+        due.is("it has nothing", x.child(0, 3), 0);
+        due.is("nor has the other", x.child(1, 3), 0);
+        due.is("its age", x.child(0, 0), 5);
     }
 
     private static void promise6() {
@@ -500,6 +526,37 @@ public final class PromiseTest {
         x.bear(1, 3);
         due.is("born in its place", x.child(4, 2), 3);
         due.is("has nothing", x.child(4, 3), 0);
+    }
+
+    /** Seventeen acts of all kinds: the first three are forgotten, all others are undone one by one. */
+    private static void promise15Full() {
+        YoungestHouse x = townOf("YH09H15H13C500C300C712C812");
+        String[] before = new String[17];
+        for (int i = 0; i < 17; i++) {
+            before[i] = stateOf(x);
+            switch (i) {
+                case 0: case 6: x.year(); break;
+                case 1: case 7: x.roll(1); break;
+                case 2: case 13: x.roll(2); break;
+                case 3: x.move(3, 0); break;
+                case 4: x.inherit(1); break;
+                case 5: x.die(0); break;
+                case 8: x.bear(0, 1); break;
+                case 9: x.inherit(0); break;
+                case 10: x.move(1, 2); break;
+                case 11: x.die(2); break;
+                case 12: x.bear(1, 2); break;
+                case 14: x.inherit(2); break;
+                case 15: x.move(4, 1); break;
+                default: x.die(1); break;
+            }
+            due.is("acts " + i, x.about(6), Math.min(i + 1, 14));
+        }
+        for (int i = 16; i >= 3; i--) {
+            due.is("undo " + i, x.undo(), i - 3);
+            due.holds("undone " + i, stateOf(x).equals(before[i]));
+        }
+        due.is("no more", x.undo(), LATE);
     }
 
     // ---- what one gets
@@ -880,12 +937,15 @@ public final class PromiseTest {
     private static void promise28() {
         YoungestHouse x = townOf("YH01C500C400C300C200C100C001");
         x.bear(0, 0);
-        // What each seed does first, by the document's own words.
-        for (long seed = 0; seed < 60; seed++) {
-            long next = seed * 6364136223846793005L + 1442695040888963407L;
-            int pick = (int) ((next >>> 33) % 12);
+        YoungestHouse sisters = townOf("YH01H11C502C402C312C212C112C002");
+        sisters.bear(1, 2);
+        // What each seed does first, by the document's own words; these seeds do all of it.
+        for (long seed = 0; seed < 200; seed++) {
+            int pick = (int) ((seedAfter(seed, 1) >>> 33) % 12);
             x.seed(seed);
             due.is("pick " + pick, x.towns(1), pick == 0 || pick == 7 ? 1 : 0);
+            sisters.seed(seed);
+            due.is("pick among sisters " + pick, sisters.towns(1), pick < 7 ? 1 : 0);
         }
         long before = x.seed(5);
         due.is("m 0", x.towns(0), BAD);
@@ -900,6 +960,9 @@ public final class PromiseTest {
         // It picks 4 5 10 1 7 11 11 1 2: the fourth, fifth, first rolled and second child change heirs.
         due.is("towns(9) of seed 5", y.towns(9), 4);
         due.is("no town", new YoungestHouse().towns(30), 0);
+        YoungestHouse z = townOf("YH01C500");
+        z.seed(147);
+        due.is("the only child dies", z.towns(1), 1);
     }
 
     private static void promise28NothingChanges() {
@@ -968,7 +1031,7 @@ public final class PromiseTest {
         x.roll(1);
         x.year();
         x.keep(0);
-        String[] kept = allOf(x).split(";", 2);
+        String kept = stateOf(x);
         x.bear(1, 0);
         x.die(4);
         x.move(3, 1);
@@ -981,8 +1044,7 @@ public final class PromiseTest {
         due.is("acts", x.about(6), 0);
         due.is("seen stays", x.unsee(), 1);
         due.is("the seed stays", x.seed(0), 3);
-        String[] then = allOf(x).split(";", 2);
-        due.holds("children and houses as kept", then[1].equals(kept[1]));
+        due.holds("all as kept", stateOf(x).equals(kept));
         int[] want = {2, 5, 30, 0, 2, 1};
         for (int what = 0; what < 6; what++) due.is("about(" + what + ")", x.about(what), want[what]);
         due.is("what it has", x.child(2, 3), 2);
