@@ -42,7 +42,6 @@ public final class PromiseTest {
         promise14();
         promise15();
         promise15Each();
-        promise15Full();
     }
 
     private static void whatOneGets() {
@@ -80,46 +79,22 @@ public final class PromiseTest {
 
     // ---- helpers
 
-    private static void tell(YoungestHouse x, String text) {
-        x.wipe();
-        for (int i = 0; i < text.length(); i++) x.write(text.charAt(i));
-    }
-
     private static YoungestHouse townOf(String text) {
         YoungestHouse x = new YoungestHouse();
-        tell(x, text);
+        Look.tell(x, text);
         due.holds("town " + text, x.town() >= 0);
         return x;
     }
 
     private static void faultIs(String text, int want) {
         YoungestHouse x = new YoungestHouse();
-        tell(x, text);
+        Look.tell(x, text);
         due.is("fault of " + text, x.fault(), want);
         due.is("town of " + text, x.town() == LATE ? LATE : 0, want == NONE ? 0 : LATE);
     }
 
-    private static String allOf(YoungestHouse x) {
-        return x.about(6) + " acts; " + stateOf(x);
-    }
-
-    /** All that can be asked of houses and children, as one text. */
-    private static String stateOf(YoungestHouse x) {
-        StringBuilder all = new StringBuilder();
-        for (int what = 0; what < 9; what++) if (what != 6) all.append(x.about(what)).append(' ');
-        for (int c = 0; c < 7; c++) {
-            for (int what = 0; what < 5; what++) all.append(x.child(c, what)).append(' ');
-            all.append(x.gets(c)).append(';');
-        }
-        for (int h = 0; h < 3; h++) {
-            for (int side = 0; side < 3; side++) all.append(x.heirs(h, side)).append(' ');
-        }
-        for (int what = 0; what < 5; what++) all.append(x.sides(what)).append(' ');
-        return all.toString();
-    }
-
     private static void same(String what, YoungestHouse x, String before) {
-        due.holds(what + " changes nothing", allOf(x).equals(before));
+        due.holds(what + " changes nothing", Look.all(x).equals(before));
     }
 
     private static void fraction(String what, int upper, int lower, int wantUpper, int wantLower) {
@@ -229,10 +204,10 @@ public final class PromiseTest {
     private static void promise5() {
         YoungestHouse x = new YoungestHouse();
         due.is("town of nothing", x.town(), LATE);
-        tell(x, "Y");
+        Look.tell(x, "Y");
         due.is("town of Y", x.town(), 0);
         for (int what = 0; what < 8; what++) due.is("of Y about(" + what + ")", x.about(what), 0);
-        tell(x, TWO);
+        Look.tell(x, TWO);
         due.is("town", x.town(), 26);
         due.is("text stays", x.about(8), TWO.length());
         x.die(1);
@@ -243,11 +218,11 @@ public final class PromiseTest {
         x.keep(0);
         x.keep(1);
         x.seed(77);
-        String before = allOf(x);
+        String before = Look.all(x);
         x.write('x');
         due.is("town with a fault", x.town(), LATE);
         x.wipe();
-        tell(x, TWO);
+        Look.tell(x, TWO);
         same("a town with a fault", x, before);
         due.is("town anew", x.town(), 26);
         int[] due5 = {2, 6, 63, 2, 0, 0, 0, 1, TWO.length()};
@@ -270,7 +245,7 @@ public final class PromiseTest {
         x.towns(1);
         due.is("a fault", x.fault(), NONE);
         x.mend(0);
-        tell(x, "YH09C500C400");
+        Look.tell(x, "YH09C500C400");
         due.is("a lesser town", x.town(), 12);
         int[] want = {1, 2, 3, 0, 0, 0, 0, 0, 12};
         for (int what = 0; what < 9; what++) due.is("lesser about(" + what + ")", x.about(what), want[what]);
@@ -378,7 +353,7 @@ public final class PromiseTest {
         for (int i = 2; i < 7; i++) due.is("bear " + i, x.bear(0, 3), i);
         due.is("children", x.about(1), 7);
         due.is("all live", x.about(2), 127);
-        String before = allOf(x);
+        String before = Look.all(x);
         due.is("bear an eighth", x.bear(0, 0), FULL);
         due.is("bear, house 2", x.bear(2, 9), UNKNOWN);
         due.is("bear, house -1", x.bear(-1, 0), UNKNOWN);
@@ -396,7 +371,7 @@ public final class PromiseTest {
         due.is("die(0)", x.die(0), 4);
         due.is("who lives", x.about(2), 54);
         due.is("the heir then", x.heirs(0, 2), 4);
-        String before = allOf(x);
+        String before = Look.all(x);
         due.is("die(3) again", x.die(3), LATE);
         due.is("die(6)", x.die(6), UNKNOWN);
         due.is("die(-1)", x.die(-1), UNKNOWN);
@@ -415,7 +390,7 @@ public final class PromiseTest {
         due.is("a son goes ahead of a daughter", x.heirs(1, 2), 8);
         x.die(3);
         due.is("a dead one, too", x.move(3, 0), 1);
-        String before = allOf(x);
+        String before = Look.all(x);
         due.is("of that one", x.move(3, 0), LATE);
         due.is("move(6, 0)", x.move(6, 0), UNKNOWN);
         due.is("move(-1, 9)", x.move(-1, 9), UNKNOWN);
@@ -434,7 +409,7 @@ public final class PromiseTest {
         due.is("roll(0) back", x.roll(0), 0);
         x.inherit(0);
         due.is("an inherited one, too", x.roll(0), 1);
-        String before = allOf(x);
+        String before = Look.all(x);
         due.is("roll(2)", x.roll(2), UNKNOWN);
         due.is("roll(-1)", x.roll(-1), UNKNOWN);
         due.is("roll(HIGH)", x.roll(HIGH), UNKNOWN);
@@ -449,7 +424,7 @@ public final class PromiseTest {
         due.is("inherit(0)", x.inherit(0), 8);
         due.is("alone", x.child(3, 3), 9);
         due.is("both", x.about(4), 3);
-        String before = allOf(x);
+        String before = Look.all(x);
         due.is("once", x.inherit(1), LATE);
         due.is("inherit(2)", x.inherit(2), UNKNOWN);
         due.is("inherit(-1)", x.inherit(-1), UNKNOWN);
@@ -462,7 +437,7 @@ public final class PromiseTest {
         due.is("more", y.child(0, 3), 14);
         due.is("the daughter has nothing", y.child(1, 3), 0);
         YoungestHouse z = townOf("YH12H15C510");
-        String empty = allOf(z);
+        String empty = Look.all(z);
         due.is("no heir", z.inherit(0), LATE);
         same("no heir", z, empty);
         z.die(0);
@@ -476,7 +451,7 @@ public final class PromiseTest {
     private static void promise14() {
         YoungestHouse x = new YoungestHouse();
         due.is("year without a town", x.year(), 1);
-        tell(x, TWO);
+        Look.tell(x, TWO);
         x.town();
         due.is("year", x.year(), 1);
         due.is("year", x.year(), 2);
@@ -501,62 +476,26 @@ public final class PromiseTest {
         due.is("so none to undo", x.undo(), LATE);
     }
 
-    private static void promise15Each() {
+    /** A town with so many of nine ACTS of all kinds. */
+    private static YoungestHouse acted(int acts) {
+        Look.Setup[] all = {x -> x.bear(0, 1), x -> x.die(4), x -> x.inherit(1), x -> x.die(2), x -> x.move(3, 0),
+            x -> x.roll(1), YoungestHouse::year, x -> x.inherit(0), x -> x.move(1, 1)};
         YoungestHouse x = townOf("YH09H15C500C300C712C812");
-        String[] before = new String[9];
-        for (int i = 0; i < 9; i++) {
-            before[i] = allOf(x);
-            switch (i) {
-                case 0: x.bear(0, 1); break;
-                case 1: x.die(4); break;
-                case 2: x.inherit(1); break;
-                case 3: x.die(2); break;
-                case 4: x.move(3, 0); break;
-                case 5: x.roll(1); break;
-                case 6: x.year(); break;
-                case 7: x.inherit(0); break;
-                default: x.move(1, 1); break;
-            }
-            due.is("acts " + i, x.about(6), i + 1);
+        for (int i = 0; i < acts; i++) all[i].on(x);
+        return x;
+    }
+
+    private static void promise15Each() {
+        for (int left = 0; left < 9; left++) {
+            YoungestHouse x = acted(9);
+            for (int i = 8; i >= left; i--) due.is("undo " + i, x.undo(), i);
+            same("undone to " + left, x, Look.all(acted(left)));
         }
-        for (int i = 8; i >= 0; i--) {
-            due.is("undo " + i, x.undo(), i);
-            same("undone " + i, x, before[i]);
-        }
+        YoungestHouse x = acted(1);
+        x.undo();
         x.bear(1, 3);
         due.is("born in its place", x.child(4, 2), 3);
         due.is("has nothing", x.child(4, 3), 0);
-    }
-
-    /** Seventeen acts of all kinds: the first three are forgotten, all others are undone one by one. */
-    private static void promise15Full() {
-        YoungestHouse x = townOf("YH09H15H13C500C300C712C812");
-        String[] before = new String[17];
-        for (int i = 0; i < 17; i++) {
-            before[i] = stateOf(x);
-            switch (i) {
-                case 0: case 6: x.year(); break;
-                case 1: case 7: x.roll(1); break;
-                case 2: case 13: x.roll(2); break;
-                case 3: x.move(3, 0); break;
-                case 4: x.inherit(1); break;
-                case 5: x.die(0); break;
-                case 8: x.bear(0, 1); break;
-                case 9: x.inherit(0); break;
-                case 10: x.move(1, 2); break;
-                case 11: x.die(2); break;
-                case 12: x.bear(1, 2); break;
-                case 14: x.inherit(2); break;
-                case 15: x.move(4, 1); break;
-                default: x.die(1); break;
-            }
-            due.is("acts " + i, x.about(6), Math.min(i + 1, 14));
-        }
-        for (int i = 16; i >= 3; i--) {
-            due.is("undo " + i, x.undo(), i - 3);
-            due.holds("undone " + i, stateOf(x).equals(before[i]));
-        }
-        due.is("no more", x.undo(), LATE);
     }
 
     // ---- what one gets
@@ -600,7 +539,7 @@ public final class PromiseTest {
         due.is("the youngest", x.way(4, 0), 0);
         x.die(4);
         due.is("who is dead is not in its way", x.way(0, 0), 2);
-        String before = allOf(x);
+        String before = Look.all(x);
         due.is("dead", x.way(4, 0), LATE);
         due.is("way(5, 0)", x.way(5, 0), UNKNOWN);
         due.is("way(-1, 0)", x.way(-1, 0), UNKNOWN);
@@ -625,7 +564,7 @@ public final class PromiseTest {
         due.is("never, no set", x.rollFor(0, 1), 0);
         due.is("daughters", x.rollFor(4, 0), 2);
         due.is("daughters, no set", x.rollFor(4, 1), 0);
-        String before = allOf(x);
+        String before = Look.all(x);
         due.is("what 2", x.rollFor(0, 2), BAD);
         due.is("what -1", x.rollFor(0, -1), BAD);
         due.is("child 6", x.rollFor(6, 2), UNKNOWN);
@@ -648,7 +587,7 @@ public final class PromiseTest {
         due.is("better elsewhere", x.mend(0), 1);
         due.is("best at home", x.mend(3), 0);
         due.is("a daughter stays where she has some", x.mend(4), 1);
-        String before = allOf(x);
+        String before = Look.all(x);
         due.is("mend(6)", x.mend(6), UNKNOWN);
         due.is("mend(-1)", x.mend(-1), UNKNOWN);
         due.is("mend(HIGH)", x.mend(HIGH), UNKNOWN);
@@ -670,7 +609,7 @@ public final class PromiseTest {
 
     private static void promise20() {
         YoungestHouse x = townOf(TWO);
-        String before = allOf(x);
+        String before = Look.all(x);
         due.is("a year", x.judge(1, 0), NONE);
         due.is("four years", x.judge(4, 0), NONE);
         due.is("a year that is none", x.judge(1, 1), 0);
@@ -840,7 +779,7 @@ public final class PromiseTest {
         x.unsee();
         x.see(1, 0, 1);
         due.is("not so", x.sides(4), 1);
-        tell(x, "YH01C500");
+        Look.tell(x, "YH01C500");
         x.town();
         due.is("the house is not there any more", x.sides(4), 0);
         due.is("so all sides", x.sides(0), 2);
@@ -969,7 +908,7 @@ public final class PromiseTest {
         YoungestHouse x = townOf(TWO);
         x.inherit(0);
         x.die(1);
-        String before = allOf(x);
+        String before = Look.all(x);
         x.seed(9);
         x.towns(30);
         same("towns", x, before);
@@ -988,7 +927,7 @@ public final class PromiseTest {
         YoungestHouse x = townOf(TWO);
         due.is("keep(0)", x.keep(0), 0);
         x.year();
-        String before = allOf(x);
+        String before = Look.all(x);
         due.is("keep(1)", x.keep(1), 1);
         due.is("keep(2)", x.keep(2), UNKNOWN);
         due.is("keep(-1)", x.keep(-1), UNKNOWN);
@@ -1031,7 +970,7 @@ public final class PromiseTest {
         x.roll(1);
         x.year();
         x.keep(0);
-        String kept = stateOf(x);
+        String kept = Look.state(x);
         x.bear(1, 0);
         x.die(4);
         x.move(3, 1);
@@ -1044,7 +983,7 @@ public final class PromiseTest {
         due.is("acts", x.about(6), 0);
         due.is("seen stays", x.unsee(), 1);
         due.is("the seed stays", x.seed(0), 3);
-        due.holds("all as kept", stateOf(x).equals(kept));
+        due.holds("all as kept", Look.state(x).equals(kept));
         int[] want = {2, 5, 30, 0, 2, 1};
         for (int what = 0; what < 6; what++) due.is("about(" + what + ")", x.about(what), want[what]);
         due.is("what it has", x.child(2, 3), 2);
