@@ -12,6 +12,7 @@ final class EdgesOfGetting extends Edges {
                 break;
             case 18:
                 promise18();
+                promise18Houses();
                 break;
             case 19:
                 promise19();
@@ -164,6 +165,10 @@ final class EdgesOfGetting extends Edges {
             due.is("rollFor(3, 0)", x.rollFor(3, 0), 4);
         }).breaks(roll, "s.gets(child) > most", "s.gets(child) >= most").breaks(roll, "size <= 3", "size <= 0")
             .breaks(roll, "set < 8", "set < 4");
+    }
+
+    private void promise18Houses() {
+        String roll = "int rollFor(";
         edge("18 ROLLED from SIDE 1 to 0, too", due -> {
             YoungestHouse x = townOf("YH19C500C300");
             due.is("how much", x.rollFor(0, 0), 9);
@@ -189,6 +194,17 @@ final class EdgesOfGetting extends Edges {
             due.is("the set", x.rollFor(1, 1), 0);
             due.is("what it HAS", x.rollFor(0, 0), 9);
         }).breaks("boolean inherit(", "places.get(h).inherited || ", "");
+        edge("18 beside a HOUSE that is INHERITED another one is ROLLED", due -> {
+            YoungestHouse x = townOf("YH09H15H04C500C300C510C310C520C320");
+            x.inherit(1);
+            due.is("a lesser one", x.rollFor(1, 1), 1);
+            due.is("a lesser one, how much", x.rollFor(1, 0), 9);
+            due.is("a greater one", x.rollFor(5, 1), 4);
+            due.is("a greater one, how much", x.rollFor(5, 0), 4);
+            x.inherit(0);
+            due.is("the only one left", x.rollFor(5, 1), 4);
+        }).breaks(roll, "if (can && ", "if (!can) return what == 0 ? most : best; if (")
+            .breaks(roll, "boolean can = true;", "boolean can = set == 0 || about(4) == 0;");
         edge("18 of one that is dead: what it HAS, and none", due -> {
             YoungestHouse x = townOf("YH09H05C500C300");
             x.inherit(0);
@@ -220,6 +236,18 @@ final class EdgesOfGetting extends Edges {
                 "int most = now.gets(child);");
         edge("19 the last HOUSE", due -> due.is("mend(0)", townOf("YH01H02H03C500").mend(0), 2))
             .breaks(mend, "h < now.places.size()", "h < now.places.size() - 1");
+        edge("19 no HOUSE that just a TOWN told before had", due -> {
+            YoungestHouse x = townOf("YH01H09H08C500");
+            due.is("mend(0)", x.mend(0), 1);
+            Look.tell(x, "YH01C500");
+            x.town();
+            due.is("mend(0) of one HOUSE", x.mend(0), 0);
+            Look.tell(x, "YH01H02C500");
+            x.town();
+            due.is("mend(0) of two", x.mend(0), 1);
+            due.is("gets(0)", x.gets(0), 1);
+        }).breaks("int town(", "now = new State();", "List<Place> were = now.places; now = new State();",
+            "return 10 * ", "while (now.places.size() < were.size()) now.places.add(were.get(now.places.size())); return 10 * ");
         edge("19 of one that is dead: it GETS the same in each, the least", due -> {
             YoungestHouse x = townOf("YH01H09C510");
             x.die(0);

@@ -217,6 +217,17 @@ final class EdgesOfSeen extends Edges {
             due.is("SEEN all the same", x.about(7), 1);
         }).breaks(wrong, "now.isPlace(s[0]) && ", "")
             .breaks(wrong, "if (!there) continue;", "if (!there) { wrong++; continue; }");
+        edge("24 the others are looked at, ahead of it and behind it", due -> {
+            YoungestHouse x = townOf("YH01H01C500C300C510C310");
+            x.bear(0, 0);
+            x.see(0, 1, 3);
+            x.see(0, 0, 19);
+            x.see(1, 3, 12);
+            sidesAre(due, x, 0, NONE, NONE, 2, 1);
+            x.undo();
+            sidesAre(due, x, 1, 3, 0, 3, 0);
+        }).breaks(wrong, "if (!there) continue;", "if (!there) break;")
+            .breaks(wrong, "if (!there) continue;", "if (!there) return 0;");
         edge("24 of one that is dead it is looked at: it is there", due -> {
             YoungestHouse x = townOf("YH01C500C300");
             x.see(0, 1, 3);
